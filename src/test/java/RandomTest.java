@@ -30,7 +30,7 @@ public final class RandomTest {
         int programs = args.length > 0 ? Integer.parseInt(args[0]) : 1500;
         int first = args.length > 1 ? Integer.parseInt(args[1]) : 1;
         boolean[] isRight = {true};
-        Thread thread = new Thread(null, () -> isRight[0] = runAll(programs, first), "random", 1L << 29);
+        Thread thread = new Thread(null, () -> isRight[0] = runAll(programs, first), "random", 1L << 27);
         thread.start();
         thread.join();
         if (!isRight[0]) {

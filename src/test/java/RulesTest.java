@@ -134,6 +134,9 @@ public final class RulesTest {
         int pairA0 = x.data(4, a, zero);
         int pairA1 = x.data(4, sa, one);
         int pairAB = x.data(4, a, b);
+        int zeroAny = x.data(5, zero, a);
+        int onePair = x.data(5, one, pair01);
+        int zeroPair = x.data(5, zero, pair01);
         meets(x, zero, zero, zero, zero, 1);
         meets(x, zero, zero, zero, one, 0);
         meets(x, one, zero, zero, zero, 0);
@@ -148,6 +151,11 @@ public final class RulesTest {
         meets(x, pairA1, zero, pairAB, zero, 1);
         meets(x, zero, pairA0, zero, pairA1, 0);
         meets(x, a, b, b, a, 1);
+        meets(x, zeroAny, zero, onePair, zero, 0);
+        meets(x, onePair, zero, zeroAny, zero, 0);
+        meets(x, zeroAny, zero, zeroPair, zero, 1);
+        meets(x, zeroPair, zero, zeroAny, zero, 1);
+        meets(x, zeroPair, zero, onePair, zero, 0);
         x.rule(1, 0, 0, zero);
         Expect.due("one rule without patterns", x.many(), 0);
         x.rule(1, 0, 0, zero);
@@ -156,22 +164,28 @@ public final class RulesTest {
         Expect.due("one again", x.many(), 0);
     }
 
-    /** Both rules are told with one between that meets neither. */
+    /** Both rules are told with one between that meets neither, or with one ahead. */
     private static void meets(Choicepoint x, int a, int b, int otherA, int otherB, int want) {
-        int five = x.drop();
-        Expect.isTrue("nodes", five > 0);
+        x.drop();
         retell(x);
-        int apart = 11;
+        int apart = 14;
         x.rule(0, a, b, 0);
         x.rule(0, apart, apart, 0);
         x.rule(0, otherA, otherB, 0);
-        int got = x.many();
-        Expect.due("patterns " + a + " " + b + " and " + otherA + " " + otherB, got, want);
+        Expect.due("patterns " + a + " " + b + " and " + otherA + " " + otherB, x.many(), want);
+        x.unrule(0);
+        x.unrule(0);
+        x.unrule(0);
+        x.rule(0, apart, apart, 0);
+        x.rule(0, a, b, 0);
+        x.rule(0, otherA, otherB, 0);
+        Expect.due("patterns " + a + " " + b + " and " + otherA + " " + otherB + ", one ahead", x.many(), want);
         x.unrule(0);
         x.unrule(0);
         x.unrule(0);
     }
 
+    /** The nodes of the patterns have their numbers again. */
     private static void retell(Choicepoint x) {
         int zero = x.data(0, 0, 0);
         int one = x.data(1, 0, 0);
@@ -183,7 +197,10 @@ public final class RulesTest {
         x.data(4, zero, one);
         x.data(4, a, zero);
         x.data(4, sa, one);
-        x.data(4, a, b);
+        int pairAB = x.data(4, a, b);
+        x.data(5, zero, a);
+        x.data(5, one, pairAB - 3);
+        x.data(5, zero, pairAB - 3);
         x.data(3, zero, 0);
     }
 

@@ -343,6 +343,17 @@ public final class RunsTest {
         int goal = x.same(five, five);
         outcomeAndSteps("uniting what is shared", goal, "1 0 0 0 1", 8 + 31);
         outcomeAndSteps("a name in what is shared", x.same(b, big), "1 0 0 0 1", 10);
+        retell();
+        int four = x.function(1, false);
+        x.rule(four, a, 0, pair(pair(a, a), pair(a, a)));
+        int huge = b;
+        for (int at = 0; at < 9; at++) {
+            huge = x.call(four, huge, 0);
+        }
+        outcomeAndSteps("far more parts than things", huge, "1 0 0 0 1", 9);
+        outcomeAndSteps("a name that is not in it", x.same(c, huge), "1 0 0 0 1", 10);
+        outcomeAndSteps("a name that is in it", x.same(b, huge), "0 1 0 0 1", 0);
+        outcomeAndSteps("16 times as many parts", x.call(four, x.call(four, huge, 0), 0), "1 0 0 0 1", 11);
     }
 
     private static void mostDecisions() {

@@ -15,6 +15,7 @@ public final class SearchesTest {
         drawn();
         drawnOverflow();
         mostRuns();
+        manySearches();
         counts();
         countAfterwards();
         parts();
@@ -152,6 +153,23 @@ public final class SearchesTest {
         Expect.due("drawn", x.search(Choicepoint.DRAWN, 9) > 0 ? 1 : 0, 1);
         Expect.due("runs", x.count(4), 200);
         Expect.due("rows are left", x.count(5), 0);
+    }
+
+    /** 25 runs branch into 24 rows each, and of the 175 others each 24th branches again. */
+    private static void manySearches() {
+        begin();
+        int f = x.function(0, false);
+        for (int at = 0; at < 23; at++) {
+            x.rule(f, 0, 0, x.drop() > 0 ? x.data(0, 0, 0) : 0);
+        }
+        x.rule(f, 0, 0, x.call(f, 0, 0));
+        int call = x.call(f, 0, 0);
+        x.goal(pair(call, call));
+        for (int turn = 0; turn < 20; turn++) {
+            Expect.due("in breadth", x.search(Choicepoint.BREADTH, 0), 175 - 7);
+            Expect.due("runs", x.count(4), 200);
+            Expect.due("rows are left", x.count(5), 0);
+        }
     }
 
     private static void counts() {

@@ -62,6 +62,11 @@ public final class SomeTest {
         int f = x.function(1, false);
         x.rule(f, zero, 0, one);
         goal("matched", x.call(f, x.some(fail), 0), "1 0 0 0 1", "1", 2);
+        int g = x.function(1, false);
+        x.rule(g, pair(pair(zero, one), zero), 0, one);
+        goal("of another kind", x.some(x.call(g, x.data(2, zero, 0), 0)), "1 0 0 0 1", "0", 2);
+        goal("of another kind, then that kind", x.some(x.call(g, x.either(zero, pair(pair(zero, one), zero)), 0)),
+                "1 0 0 0 1", "1", 4);
         goal("matched, unlike", x.call(f, x.some(zero), 0), "0 1 0 0 1", "", 0);
     }
 
@@ -169,6 +174,11 @@ public final class SomeTest {
         int around = x.function(1, false);
         x.rule(around, a, 0, x.some(x.call(outer, a, 0)));
         goal("two runs below", pair(x.call(around, x.same(a, zero), 0), a), "1 0 0 0 1", "4 1 0", 5);
+        int bind = x.function(1, false);
+        b = x.name(1);
+        x.rule(bind, a, 0, x.same(pair(a, b), pair(b, zero)));
+        goal("what became a thing from without is that", x.some(x.call(bind, a, 0)), "0 0 1 0 1", "", 0);
+        goal("not within", pair(x.call(bind, a, 0), a), "1 0 0 0 1", "4 1 0", 4);
     }
 
     /** A call from without narrows, within, an open thing from without; its ways are those of the run around. */
