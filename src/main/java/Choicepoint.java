@@ -28,8 +28,8 @@ public final class Choicepoint {
     private static final int MOST_SCOPES = MOST_STEPS + 2, MOST_LEVELS = MOST_STEPS + 2;
     // A step makes 12 things by a right side and 22 by patterns at most, and the goal 12.
     private static final int MOST_THINGS = 3500;
-    // Far above what 100 steps can leave undone; a run that came near would be cut.
-    private static final int MOST_TASKS = 8000, MOST_TURNS = 4000000;
+    // Above what 100 steps can leave undone, some 30 tasks each; a run that came near would be cut.
+    private static final int MOST_TASKS = 5000, MOST_TURNS = 4000000;
     // One task makes fewer things, and leaves fewer tasks, than this.
     private static final int SPARE = 20;
     // Each run branches into as many ways as there are rules at most.
