@@ -12,6 +12,9 @@ public final class SomeTest {
         choicesOfItsOwn();
         choicesFromWithout();
         failuresFromWithout();
+        whatComesOfThingsFromWithout();
+        openThingsOfCallsFromWithout();
+        openThingsOfPatternsFromWithout();
         openThingsFromWithout();
         unitingAcross();
         narrowingFromWithout();
@@ -20,6 +23,7 @@ public final class SomeTest {
         mostDecisions();
         decisionsApart();
         nested();
+        nestedBetweenDecisions();
         nestedAround();
         floatsAndCuts();
         namesOfTheGoal();
@@ -123,6 +127,85 @@ public final class SomeTest {
         int s = x.function(2, false);
         x.rule(s, a, b, x.some(x.same(a, b)));
         goal("SAME within of things from without", x.call(s, zero, one), "1 0 0 0 1", "0", 3);
+    }
+
+    /** What a call from without becomes, be it forced within, belongs to the run around: its ways and failures. */
+    private static void whatComesOfThingsFromWithout() {
+        begin();
+        int f = x.function(1, false);
+        x.rule(f, a, 0, x.some(a));
+        int c = x.function(0, false);
+        int call = x.call(f, x.call(c, 0, 0), 0);
+        x.rule(c, 0, 0, x.either(zero, one));
+        goal("its EITHER", call, "2 0 0 0 3", "1", 3);
+        Expect.row("its EITHER is the run's decision", Expect.fates(x, 0), "0");
+        x.unrule(c);
+        x.rule(c, 0, 0, x.either(fail, one));
+        goal("its EITHER, a way of which fails", call, "1 1 0 0 3", "1", 3);
+        x.unrule(c);
+        x.rule(c, 0, 0, fail);
+        goal("its call without rules", call, "0 1 0 0 1", "", 0);
+        x.unrule(c);
+        x.rule(c, 0, 0, x.same(zero, one));
+        goal("its SAME", call, "0 1 0 0 1", "", 0);
+        x.unrule(c);
+        x.rule(c, 0, 0, x.unlike(zero, zero));
+        goal("its UNLIKE", call, "0 1 0 0 1", "", 0);
+        x.unrule(c);
+        x.rule(c, 0, 0, x.same(b, x.data(2, b, 0)));
+        goal("its SAME of a name in data", call, "0 1 0 0 1", "", 0);
+        x.unrule(c);
+        x.rule(c, 0, 0, pair(one, fail));
+        goal("its part", call, "0 1 0 0 1", "", 0);
+        x.unrule(c);
+        x.rule(c, 0, 0, x.some(x.either(fail, zero)));
+        goal("its SOME", call, "1 0 0 0 1", "1", 5);
+        goal("its SOME, two runs below", x.some(call), "1 0 0 0 1", "1", 6);
+    }
+
+    /** New open things of its right side belong to the run around: they are narrowed there, not within. */
+    private static void openThingsOfCallsFromWithout() {
+        begin();
+        int free = freeCall();
+        int not = x.function(1, false);
+        x.rule(not, zero, 0, one);
+        int within = x.function(1, false);
+        x.rule(within, a, 0, x.some(x.call(not, a, 0)));
+        goal("narrowed within", x.call(within, free, 0), "0 0 1 0 1", "", 0);
+        int united = x.function(1, false);
+        x.rule(united, a, 0, x.some(x.same(a, zero)));
+        goal("united within", x.call(united, free, 0), "0 0 1 0 1", "", 0);
+        int behind = x.function(1, false);
+        x.rule(behind, a, 0, pair(x.some(a), pair(x.call(not, a, 0), a)));
+        goal("forced within, narrowed behind", x.call(behind, free, 0), "1 0 0 0 1", "4 1 4 1 0", 4);
+        x.unrule(behind);
+        x.rule(behind, a, 0, pair(x.some(a), pair(x.same(a, zero), a)));
+        goal("forced within, united behind", x.call(behind, free, 0), "1 0 0 0 1", "4 1 4 1 0", 4);
+        goal("all of it two runs below", x.some(x.call(behind, free, 0)), "1 0 0 0 1", "1", 5);
+    }
+
+    /** The new parts of an open thing from without, narrowed by a call from without, belong to the run around. */
+    private static void openThingsOfPatternsFromWithout() {
+        begin();
+        int part = x.function(1, false);
+        x.rule(part, pair(b, x.data(2, a, 0)), 0, pair(a, b));
+        int first = x.function(1, false);
+        x.rule(first, pair(zero, a), 0, one);
+        x.rule(first, pair(one, a), 0, zero);
+        int second = x.function(1, false);
+        x.rule(second, pair(a, zero), 0, one);
+        int narrowed = x.call(part, a, 0);
+        int within = x.function(1, false);
+        x.rule(within, a, 0, x.some(x.call(second, a, 0)));
+        goal("a part narrowed within", x.call(within, narrowed, 0), "0 0 1 0 1", "", 0);
+        int behind = x.function(1, false);
+        x.rule(behind, a, 0, pair(x.some(a), pair(x.call(second, a, 0), a)));
+        goal("forced within, a part narrowed behind", x.call(behind, narrowed, 0), "1 0 0 0 1", "4 1 4 1 4 10 0", 4);
+        Expect.row("the name", Expect.bounds(x, 0, 0), "4 0 2 10");
+        x.unrule(behind);
+        x.rule(behind, a, 0, pair(x.some(a), pair(x.call(first, a, 0), a)));
+        goal("the other part narrowed behind", x.call(behind, narrowed, 0), "2 0 0 0 3", "4 1 4 1 4 0 10", 4);
+        Expect.row("the name", Expect.bounds(x, 1, 0), "4 10 2 1");
     }
 
     private static void openThingsFromWithout() {
@@ -294,6 +377,23 @@ public final class SomeTest {
         goal("a failure of the middle run, come to in the inner one", h, "1 0 0 0 1", "1", 7);
         int k = x.some(x.call(f, fail, 0));
         goal("the middle run fails for good", k, "1 0 0 0 1", "0", 3);
+    }
+
+    /** Decisions of a run within stay while others are made within it: those ahead, and those behind. */
+    private static void nestedBetweenDecisions() {
+        begin();
+        int toss = x.function(0, false);
+        x.rule(toss, 0, 0, x.either(zero, one));
+        int coin = x.call(toss, 0, 0);
+        int inner = x.some(x.either(fail, zero));
+        goal("a decision ahead", x.some(x.same(pair(coin, inner), pair(one, one))), "1 0 0 0 1", "1", 6 + 7);
+        int f = x.function(1, false);
+        x.rule(f, pair(one, pair(one, one)), 0, zero);
+        goal("one ahead and one behind", x.some(x.call(f, pair(coin, pair(inner, coin)), 0)),
+                "1 0 0 0 1", "1", 3 + 6 + 6);
+        goal("no way has a value", x.some(x.call(f, pair(coin, pair(inner, zero)), 0)), "1 0 0 0 1", "0", 3 + 5);
+        goal("two in one ahead", x.some(x.call(f, pair(coin, pair(x.some(inner), coin)), 0)),
+                "1 0 0 0 1", "1", 3 + 7 + 7);
     }
 
     /** A SOME of the run around that is forced within is found by runs within that. */
