@@ -89,10 +89,14 @@ public final class RandomTest {
         return random.nextInt(many) == 0;
     }
 
+    private int far() {
+        return isOneOf(2) ? random.nextInt() : isOneOf(2) ? Integer.MAX_VALUE : Integer.MIN_VALUE;
+    }
+
     /** A node, of the later ones more often; now and then one that is not there. */
     private int node() {
         if (isOneOf(150)) {
-            return pick(100) - 5;
+            return isOneOf(3) ? far() : pick(100) - 5;
         }
         return isOneOf(2) ? pick(nodes) : Math.max(0, nodes - 1 - pick(10));
     }
@@ -220,7 +224,7 @@ public final class RandomTest {
         for (int value = 0; value < kept; value++) {
             compareValue(value);
         }
-        ask(pick(14) - 2, pick(9) - 2, pick(60) - 2);
+        ask(isOneOf(30) ? far() : pick(14) - 2, isOneOf(30) ? far() : pick(9) - 2, isOneOf(30) ? far() : pick(60) - 2);
     }
 
     /** Whole rows are compared apart from the calls, of which there are few. */
