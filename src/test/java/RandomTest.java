@@ -16,6 +16,8 @@ public final class RandomTest {
     private final Oracle oracle = new Oracle();
     private final List<String> log = new ArrayList<>();
     private final int[] outcomes;
+    /** How often is told: data, a call, EITHER, SAME, UNLIKE, SOME, a name. */
+    private final int[] weights = {2, 4, 1, 1, 1, 2, 1};
     private int calls = 0;
     private int nodes = 0;
     private final List<Integer> patterns = new ArrayList<>();
@@ -24,6 +26,11 @@ public final class RandomTest {
     private RandomTest(long seed, int[] outcomes) {
         random = new Random(seed);
         this.outcomes = outcomes;
+        if (isOneOf(2)) {
+            for (int at = 0; at < weights.length; at++) {
+                weights[at] = 1 + pick(isOneOf(3) ? 16 : 4);
+            }
+        }
     }
 
     public static void main(String[] args) throws InterruptedException {
@@ -177,19 +184,34 @@ public final class RandomTest {
         int a = node();
         int b = node();
         String with = "(" + a + ", " + b + ")";
-        switch (pick(12)) {
-            case 0, 1 -> tellData(isOneOf(20) ? pick(9) - 2 : pick(6));
-            case 2, 3, 4, 5 -> {
+        switch (drawTag()) {
+            case 0 -> tellData(isOneOf(20) ? pick(9) - 2 : pick(6));
+            case 1 -> {
                 int function = isOneOf(40) ? pick(12) - 2 : pick(parts.size());
                 noteNode(both("call(" + function + ", " + a + ", " + b + ")",
                         () -> tested.call(function, a, b), () -> oracle.call(function, a, b)), false);
             }
-            case 6 -> noteNode(both("either" + with, () -> tested.either(a, b), () -> oracle.either(a, b)), false);
-            case 7 -> noteNode(both("same" + with, () -> tested.same(a, b), () -> oracle.same(a, b)), false);
-            case 8 -> noteNode(both("unlike" + with, () -> tested.unlike(a, b), () -> oracle.unlike(a, b)), false);
-            case 9, 10 -> noteNode(both("some(" + a + ")", () -> tested.some(a), () -> oracle.some(a)), false);
+            case 2 -> noteNode(both("either" + with, () -> tested.either(a, b), () -> oracle.either(a, b)), false);
+            case 3 -> noteNode(both("same" + with, () -> tested.same(a, b), () -> oracle.same(a, b)), false);
+            case 4 -> noteNode(both("unlike" + with, () -> tested.unlike(a, b), () -> oracle.unlike(a, b)), false);
+            case 5 -> noteNode(both("some(" + a + ")", () -> tested.some(a), () -> oracle.some(a)), false);
             default -> tellName(isOneOf(20) ? pick(10) - 2 : pick(4));
         }
+    }
+
+    /** About half of the programs have weights of their own, so that some are mostly of SOME and SAME, say. */
+    private int drawTag() {
+        int all = 0;
+        for (int weight : weights) {
+            all += weight;
+        }
+        int drawn = pick(all);
+        int tag = 0;
+        while (drawn >= weights[tag]) {
+            drawn -= weights[tag];
+            tag++;
+        }
+        return tag;
     }
 
     private void addRules() {
